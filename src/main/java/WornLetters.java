@@ -217,7 +217,8 @@ public final class WornLetters {
         if (!isSign(x)) {
             return OUTSIDE;
         }
-        chart.countPassing(lexicon, tablet);
+        chart.countAll(lexicon, tablet);
+        chart.countHeads();
         return chart.countSign(lexicon, unit, x);
     }
 
@@ -225,7 +226,8 @@ public final class WornLetters {
         if (!lexicon.hasWord(word) || !tablet.hasUnit(unit)) {
             return UNKNOWN;
         }
-        chart.countPassing(lexicon, tablet);
+        chart.countAll(lexicon, tablet);
+        chart.countHeads();
         return chart.countThrough(unit, word);
     }
 
@@ -234,7 +236,8 @@ public final class WornLetters {
     }
 
     private int certainSign(Tablet examined, int unit) {
-        long all = chart.countPassing(lexicon, examined);
+        long all = chart.countAll(lexicon, examined);
+        chart.countHeads();
         for (int x = 0; x < SIGNS; x++) {
             if (all > 0 && chart.countSign(lexicon, unit, x) == all) {
                 return x;
@@ -518,11 +521,11 @@ public final class WornLetters {
         }
 
         private int widthOf(int sign) {
-            return isSign(sign) ? widths[sign] : 1;
+            return sign >= 0 && sign < SIGNS ? widths[sign] : 1;
         }
 
         private int letterOf(int word, int index) {
-            boolean exists = hasWord(word) && index >= 0 && index < MOST_LETTERS;
+            boolean exists = word >= 0 && word < words && index >= 0 && index < MOST_LETTERS;
             return exists ? letters[word * MOST_LETTERS + index] : NONE;
         }
 
@@ -578,8 +581,11 @@ public final class WornLetters {
         }
 
         private boolean isFree(int unit, int width) {
+            if (unit < 0 || unit + width > units) {
+                return false;
+            }
             for (int i = 0; i < width; i++) {
-                if (!hasUnit(unit + i) || signs[unit + i] != GAP) {
+                if (signs[unit + i] != GAP) {
                     return false;
                 }
             }
@@ -598,8 +604,8 @@ public final class WornLetters {
             }
         }
 
-        private boolean holdsSign(int unit, int sign, int width) {
-            return hasUnit(unit) && (signs[unit] == sign || isFree(unit, width));
+        private boolean holdsBlank(int unit) {
+            return hasUnit(unit) && (signs[unit] == BLANK || signs[unit] == GAP);
         }
 
         private boolean holdsWord(Lexicon lexicon, int word, int unit) {
@@ -610,7 +616,8 @@ public final class WornLetters {
             for (int i = 0; i < lexicon.lengths[word]; i++) {
                 int letter = lexicon.letterOf(word, i);
                 int width = lexicon.widthOf(letter);
-                if (!holdsSign(place, letter, width)) {
+                boolean onLine = hasUnit(place) && signs[place] == letter;
+                if (!onLine && !isFree(place, width)) {
                     return false;
                 }
                 place += width;
@@ -962,7 +969,7 @@ public final class WornLetters {
                 followers[w] = followersOf(lexicon, tablet, w);
                 for (int u = 0; u + spans[w] <= units && ((tablet.barred >> w) & 1) == 0; u++) {
                     int end = u + spans[w];
-                    boolean closed = end == units || tablet.holdsSign(end, BLANK, 1);
+                    boolean closed = end == units || tablet.holdsBlank(end);
                     if (closed && tablet.holdsWord(lexicon, w, u)) {
                         open[u] |= 1 << w;
                     }
@@ -1042,8 +1049,9 @@ public final class WornLetters {
         /** Counts the readings that consist of words of a set, and how many ends of them begin at each place. */
         private long countFrom(int set) {
             for (int u = units - 1; u >= 0; u--) {
-                for (int w = 0; w < words && (open[u] & set) != 0; w++) {
-                    if (isOpen(u, w) && ((set >> w) & 1) != 0) {
+                int starters = open[u] & set;
+                for (int w = 0; w < words && starters >> w != 0; w++) {
+                    if (((starters >> w) & 1) != 0) {
                         int next = nextUnit(u, w);
                         tails[u * MOST_WORDS + w] = next > units ? 1L : sumTails(next, followers[w] & set);
                     }
@@ -1055,7 +1063,7 @@ public final class WornLetters {
         private long sumTails(int unit, int set) {
             int starters = open[unit] & set;
             long sum = 0L;
-            for (int w = 0; w < words && starters != 0; w++) {
+            for (int w = 0; w < words && starters >> w != 0; w++) {
                 if (((starters >> w) & 1) != 0) {
                     sum += tails[unit * MOST_WORDS + w];
                 }
@@ -1063,9 +1071,8 @@ public final class WornLetters {
             return sum;
         }
 
-        /** Counts all readings, and how many beginnings of them lead to each place. */
-        private long countPassing(Lexicon lexicon, Tablet tablet) {
-            long all = countAll(lexicon, tablet);
+        /** Counts, behind countAll, how many beginnings of readings lead to each place. */
+        private void countHeads() {
             Arrays.fill(heads, 0L);
             for (int w = 0; w < words; w++) {
                 heads[w] = isOpen(0, w) ? 1L : 0L;
@@ -1077,7 +1084,6 @@ public final class WornLetters {
                     }
                 }
             }
-            return all;
         }
 
         private void passOn(long beginnings, int unit, int set) {
@@ -1088,13 +1094,13 @@ public final class WornLetters {
             }
         }
 
-        /** The number of readings with a place, behind countPassing. */
+        /** The number of readings with a place, behind countHeads. */
         private long countThrough(int unit, int word) {
             int place = unit * MOST_WORDS + word;
             return isOpen(unit, word) ? heads[place] * tails[place] : 0L;
         }
 
-        /** The number of readings in which a sign begins at a unit, behind countPassing. */
+        /** The number of readings in which a sign begins at a unit, behind countHeads. */
         private long countSign(Lexicon lexicon, int unit, int sign) {
             long sum = 0L;
             for (int u = 0; u <= unit && u < units; u++) {
