@@ -80,6 +80,12 @@ public final class ActBoundaryTest {
         for (int unit : new int[] {2, 4, 5, 8, 10, 11, 13, 15}) {
             s.is("wear(" + unit + ")", x.wear(unit), STATE);
         }
+        s.of(9, "This is an act.");
+        WornLetters act = Due.stone(EACH_SIGN);
+        s.is("wear(0) of sign 0", act.wear(0), 0);
+        s.is("count(5)", act.count(5), 1);
+        s.is("undo()", act.undo(), 0);
+        s.is("line(0)", act.line(0), 0);
         s.of(9, UNCHANGED);
         lineIs(x, "behind refused calls", 0, 1, 8, 2, 8, 8, 3, 4, 8, 5, 8, 8, 6, 7, 7, 7);
         s.is("count(5) behind refused calls", x.count(5), 0);
@@ -107,6 +113,10 @@ public final class ActBoundaryTest {
         s.is("carve(5, 6)", y.carve(5, 6), 2);
         s.is("carve(3, 1), the last gap", y.carve(3, 1), 0);
         lineIs(y, "when all is carved", 2, 8, 8, 1, 8, 6);
+        s.of(10, "This is an act.");
+        s.is("count(5), that of the last gap is one, too", y.count(5), 3);
+        s.is("undo() of the last one", y.undo(), 2);
+        lineIs(y, "behind it", 2, 8, 8, 7, 7, 6);
         WornLetters one = Due.stone("S111111l1");
         s.is("carve(0, 0) of one unit", one.carve(0, 0), 0);
         WornLetters full = Due.stone("S311111l996");
@@ -145,13 +155,14 @@ public final class ActBoundaryTest {
         WornLetters y = Due.stone("S111111l2");
         s.is("carve(-1, 0)", y.carve(-1, 0), UNKNOWN);
         s.is("carve(2, 0)", y.carve(2, 0), UNKNOWN);
-        s.is("carve(0, -1)", y.carve(0, -1), OUTSIDE);
-        s.is("carve(0, 7)", y.carve(0, 7), OUTSIDE);
-        s.is("carve(0, 8)", y.carve(0, 8), OUTSIDE);
         for (int far : FAR) {
             s.is("carve(" + far + ", 0)", y.carve(far, 0), UNKNOWN);
             s.is("carve(0, " + far + ")", y.carve(0, far), OUTSIDE);
         }
+        s.of(10, "`x`: the sign, 0 to 6");
+        s.is("carve(0, -1)", y.carve(0, -1), OUTSIDE);
+        s.is("carve(0, 7), the number of a gap", y.carve(0, 7), OUTSIDE);
+        s.is("carve(0, 8), the number of what is covered", y.carve(0, 8), OUTSIDE);
         s.is("count(3) behind refused calls", y.count(3), 2);
         s.is("count(5) behind refused calls", y.count(5), 0);
         s.of(10, FIRST_NAMED);
@@ -176,6 +187,16 @@ public final class ActBoundaryTest {
         s.is("bar(7) again", x.bar(7), 0);
         s.is("count(4)", x.count(4), 126);
         s.is("bar(7) for the third time", x.bar(7), 1);
+        s.of(11, "Excludes a word, or includes it again, if it is excluded.");
+        WornLetters y = Due.stone("S111111dab001dba001l2");
+        s.is("bar(1)", y.bar(1), 1);
+        s.is("readings(), excluded", y.readings(), 1);
+        s.is("bar(1) again", y.bar(1), 0);
+        s.is("readings(), included again", y.readings(), 2);
+        s.of(11, "This is an act.");
+        s.is("count(5)", y.count(5), 2);
+        s.is("undo()", y.undo(), 1);
+        s.is("word(1, 5)", y.word(1, 5), 1);
         s.of(11, "UNKNOWN if there is no such word.");
         s.is("bar(-1)", x.bar(-1), UNKNOWN);
         s.is("bar(8)", x.bar(8), UNKNOWN);
@@ -209,12 +230,28 @@ public final class ActBoundaryTest {
         s.is("count(5)", y.count(5), 1);
         s.is("undo()", y.undo(), 0);
         s.is("rule(2, 2)", y.rule(2, 2), 1);
-        s.of(12, "OUTSIDE if an argument is out of range.");
-        for (int bad : new int[] {-1, 3}) {
-            s.is("setRule(" + bad + ", 0, 0)", y.setRule(bad, 0, 0), OUTSIDE);
-            s.is("setRule(0, " + bad + ", 0)", y.setRule(0, bad, 0), OUTSIDE);
-            s.is("setRule(0, 0, " + bad + ")", y.setRule(0, 0, bad), OUTSIDE);
+        s.of(12, "`p`: the kind of the first word, 0 to 2");
+        s.is("setRule(-1, 2, 1)", y.setRule(-1, 2, 1), OUTSIDE);
+        s.is("setRule(0, 2, 1)", y.setRule(0, 2, 1), 1);
+        s.is("setRule(2, 2, 1)", y.setRule(2, 2, 1), 1);
+        s.is("setRule(3, 2, 1)", y.setRule(3, 2, 1), OUTSIDE);
+        s.of(12, "`q`: the kind of the word that follows, 0 to 2");
+        s.is("setRule(2, -1, 1)", y.setRule(2, -1, 1), OUTSIDE);
+        s.is("setRule(2, 0, 1)", y.setRule(2, 0, 1), 1);
+        s.is("setRule(2, 2, 1)", y.setRule(2, 2, 1), 1);
+        s.is("setRule(2, 3, 1)", y.setRule(2, 3, 1), OUTSIDE);
+        s.of(12, "`v`: the new rule, 0 to 2");
+        s.is("setRule(2, 2, -1)", y.setRule(2, 2, -1), OUTSIDE);
+        s.is("setRule(2, 2, 0)", y.setRule(2, 2, 0), 1);
+        s.is("setRule(2, 2, 2)", y.setRule(2, 2, 2), 0);
+        s.is("setRule(2, 2, 3)", y.setRule(2, 2, 3), OUTSIDE);
+        s.is("count(5) of six that were not refused", y.count(5), 6);
+        for (int left = 5; left >= 0; left--) {
+            y.undo();
         }
+        s.of(12, "OUTSIDE if an argument is out of range.");
+        s.is("setRule(3, 3, 3)", y.setRule(3, 3, 3), OUTSIDE);
+        s.is("setRule(-1, -1, -1)", y.setRule(-1, -1, -1), OUTSIDE);
         for (int far : FAR) {
             s.is("setRule(" + far + ", 2, 2)", y.setRule(far, 2, 2), OUTSIDE);
             s.is("setRule(2, " + far + ", 2)", y.setRule(2, far, 2), OUTSIDE);
@@ -240,11 +277,16 @@ public final class ActBoundaryTest {
         s.is("count(5)", x.count(5), 4);
         s.is("undo()", x.undo(), 3);
         s.is("word(1, 3)", x.word(1, 3), 5);
+        s.of(13, "`v`: the new weight, 1 to 9");
+        s.is("weigh(0, 0)", x.weigh(0, 0), OUTSIDE);
+        s.is("weigh(0, 9)", x.weigh(0, 9), 1);
+        s.is("weigh(0, 1)", x.weigh(0, 1), 9);
+        s.is("weigh(0, 10)", x.weigh(0, 10), OUTSIDE);
+        s.is("undo()", x.undo(), 4);
+        s.is("undo()", x.undo(), 3);
         s.of(13, "UNKNOWN if there is no such word; OUTSIDE if v is out of range.");
         s.is("weigh(-1, 1)", x.weigh(-1, 1), UNKNOWN);
         s.is("weigh(2, 1)", x.weigh(2, 1), UNKNOWN);
-        s.is("weigh(0, 0)", x.weigh(0, 0), OUTSIDE);
-        s.is("weigh(0, 10)", x.weigh(0, 10), OUTSIDE);
         for (int far : FAR) {
             s.is("weigh(" + far + ", 1)", x.weigh(far, 1), UNKNOWN);
             s.is("weigh(0, " + far + ")", x.weigh(0, far), OUTSIDE);

@@ -62,6 +62,13 @@ public final class ChanceBoundaryTest {
         s.is("which(0) behind it", x.which(0), 9);
         x.unsee();
         s.is("see(2, 4, 0) behind unsee", x.see(2, 4, 0), 1);
+        s.of(22, "in the reading that is sought, a word begins at a unit, or does not.");
+        WornLetters sought = Due.stone(NINE);
+        sought.see(0, 0, 1);
+        sought.see(2, 3, 1);
+        s.is("which(1), the reading sought", sought.which(1), 1);
+        s.is("which(0), it alone", sought.which(0), 1);
+        s.is("readings(), still all", sought.readings(), 9);
         s.of(22, "1: it begins there; 0: it does not");
         for (int word = 0; word < 3; word++) {
             for (int unit = 0; unit < 5; unit++) {
@@ -175,6 +182,14 @@ public final class ChanceBoundaryTest {
         x.unsee();
         x.see(2, 3, 0);
         s.is("which(0), an excluded word begins nowhere", x.which(0), 4);
+        // The second word may not follow the first: 00, 10 and 11.
+        WornLetters ruled = Due.stone(S + "dab001dba101r010l5");
+        ruled.see(1, 0, 1);
+        s.is("which(0), by the rules", ruled.which(0), 2);
+        s.is("which(1), by the rules", ruled.which(1), 1);
+        ruled.see(1, 3, 1);
+        s.is("which(0), by the rules", ruled.which(0), 1);
+        s.is("which(1), by the rules", ruled.which(1), 2);
         WornLetters dense = Due.stone(DENSE);
         dense.see(0, 0, 1);
         s.is("which(0), dense", dense.which(0), 2097152);
@@ -419,6 +434,16 @@ public final class ChanceBoundaryTest {
     }
 
     private static void drawn() {
+        s.of(28, "For each draw the random number x becomes x * 6364136223846793005 + 1442695040888963407");
+        WornLetters once = Due.stone(NINE);
+        once.drawn(1);
+        s.is("seed(1) behind a draw from 0", once.seed(1), 1442695040888963407L);
+        once.drawn(1);
+        s.is("seed(-1) behind a draw from 1", once.seed(-1), 7806831264735756412L);
+        once.drawn(1);
+        s.is("seed(0) behind a draw from -1", once.seed(0), -4921441182957829598L);
+        once.drawn(3);
+        s.is("seed(0) behind three draws from 0", once.seed(0), following(following(following(0))));
         s.of(28, "(long arithmetic that wraps); let d be its upper 31 bits, as a number of 0 or more.");
         long[] seeds = {0, 1, -1, Long.MIN_VALUE, Long.MAX_VALUE, 4611686018427387904L, 3, -12345678901234L};
         int high = 0;
@@ -470,6 +495,14 @@ public final class ChanceBoundaryTest {
     }
 
     private static void drawnRefused() {
+        s.of(28, "`m`: 1 to 20");
+        WornLetters one = Due.stone(S + "dab003lab");
+        s.is("drawn(0)", one.drawn(0), OUTSIDE);
+        s.is("drawn(1)", one.drawn(1), 3);
+        s.is("drawn(20)", one.drawn(20), 60);
+        s.is("drawn(21)", one.drawn(21), OUTSIDE);
+        s.of(28, "Returns the sum of the weights of the readings that are drawn");
+        s.is("drawn(7)", one.drawn(7), 21);
         s.of(28, "OUTSIDE if m is out of range.");
         WornLetters x = Due.stone(NINE);
         x.seed(9);
@@ -495,10 +528,13 @@ public final class ChanceBoundaryTest {
         s.is("keep(1) of one word", Due.stone(S + "dab001").keep(1), 1);
         s.is("keep(0) of eight words", Due.stone(DENSE).keep(0), 8);
         s.is("keep(1) of eight words", Due.stone(DENSE).keep(1), 8);
+        s.of(29, "`slot`: 0 or 1");
+        s.is("keep(-1)", Due.stone(SLOTTED).keep(-1), UNKNOWN);
+        s.is("keep(0)", Due.stone(SLOTTED).keep(0), 3);
+        s.is("keep(1)", Due.stone(SLOTTED).keep(1), 3);
+        s.is("keep(2)", Due.stone(SLOTTED).keep(2), UNKNOWN);
         s.of(29, "UNKNOWN if slot is out of range.");
         WornLetters x = Due.stone(SLOTTED);
-        s.is("keep(-1)", x.keep(-1), UNKNOWN);
-        s.is("keep(2)", x.keep(2), UNKNOWN);
         for (int far : FAR) {
             s.is("keep(" + far + ")", x.keep(far), UNKNOWN);
         }
@@ -603,6 +639,14 @@ public final class ChanceBoundaryTest {
         }
         x.keep(0);
         s.is("again(1), the other slot is empty", x.again(1), STATE);
+        s.of(30, "`slot`: 0 or 1");
+        WornLetters both = Due.stone(SLOTTED);
+        both.keep(0);
+        both.keep(1);
+        s.is("again(-1)", both.again(-1), UNKNOWN);
+        s.is("again(0)", both.again(0), 3);
+        s.is("again(1)", both.again(1), 3);
+        s.is("again(2)", both.again(2), UNKNOWN);
         s.of(30, UNCHANGED);
         s.is("count(4) behind refused calls", x.count(4), 1);
         s.is("count(5) behind refused calls", x.count(5), 1);

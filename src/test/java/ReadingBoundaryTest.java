@@ -28,6 +28,8 @@ public final class ReadingBoundaryTest {
         readings();
         rankNumbers();
         rankOrder();
+        rankByRules();
+        rankBehindActs();
         rankRefused();
         stands();
         begins();
@@ -108,6 +110,7 @@ public final class ReadingBoundaryTest {
             s.is("lies(" + far + ", 0)", x.lies(far, 0), UNKNOWN);
             s.is("lies(0, " + far + ")", x.lies(0, far), UNKNOWN);
         }
+        s.is("lies(0, 0) of a new object", new WornLetters().lies(0, 0), UNKNOWN);
         s.is("lies(0, 0) without a line", Due.stone(S + "dab001").lies(0, 0), UNKNOWN);
         s.is("lies(0, 0) without words", Due.stone(S + "l2").lies(0, 0), UNKNOWN);
         s.is("lies(0, 23)", Due.stone(S + "dab001l996").lies(0, 23), 0);
@@ -306,6 +309,64 @@ public final class ReadingBoundaryTest {
         s.is("rank(16777216, -1)", dense.rank(16777216, -1), NONE);
     }
 
+    private static void rankByRules() {
+        s.of(17, "each word may follow the one before it by the rules.");
+        // The second word may not follow the first: 00, 10 and 11.
+        WornLetters x = Due.stone(S + "dab001dba101r010l5");
+        rankRow(x, 0, 2, 0, 0);
+        rankRow(x, 1, 2, 1, 0);
+        rankRow(x, 2, 2, 1, 1);
+        s.is("rank(3, 0)", x.rank(3, 0), NONE);
+        x.weigh(1, 2);
+        rankRow(x, 0, 4, 1, 1);
+        rankRow(x, 1, 3, 1, 0);
+        rankRow(x, 2, 2, 0, 0);
+        // Only a word with the same ending may follow: 000, 022, 111, 200, 222 and so on, eight with 0 and 2, one with 1.
+        WornLetters y = Due.stone(S + "dab001dba011dcc001r002l8");
+        s.is("readings()", y.readings(), 9);
+        rankRow(y, 0, 3, 0, 0, 0);
+        rankRow(y, 3, 3, 0, 2, 2);
+        rankRow(y, 4, 3, 1, 1, 1);
+        rankRow(y, 5, 3, 2, 0, 0);
+        rankRow(y, 8, 3, 2, 2, 2);
+        s.of(17, "none of which is excluded");
+        y.bar(0);
+        rankRow(y, 0, 3, 1, 1, 1);
+        rankRow(y, 1, 3, 2, 2, 2);
+        s.is("rank(2, 0)", y.rank(2, 0), NONE);
+        s.of(17, "Readings are ranked by their weights, the greatest first");
+        WornLetters heavy = Due.stone(S + "daa009dab009dac009dad009dae009daf009dba009dbb009l995");
+        rankRow(heavy, 0, 72, 0, 0, 0, 0, 0, 0, 0, 0);
+        rankRow(heavy, 1, 72, 0, 0, 0, 0, 0, 0, 0, 1);
+        rankRow(heavy, 16777215, 72, 7, 7, 7, 7, 7, 7, 7, 7);
+        heavy.weigh(0, 8);
+        rankRow(heavy, 0, 72, 1, 1, 1, 1, 1, 1, 1, 1);
+        rankRow(heavy, 16777215, 64, 0, 0, 0, 0, 0, 0, 0, 0);
+    }
+
+    private static void rankBehindActs() {
+        s.of(17, "Returns something about a reading.");
+        WornLetters x = Due.stone(S + "dab001dba002l5");
+        rankRow(x, 0, 4, 1, 1);
+        x.carve(3, 0);
+        rankRow(x, 0, 3, 1, 0);
+        rankRow(x, 1, 2, 0, 0);
+        s.is("rank(2, 0) behind carve", x.rank(2, 0), NONE);
+        x.undo();
+        x.setRule(0, 0, 0);
+        s.is("rank(0, 0) behind setRule", x.rank(0, 0), NONE);
+        x.undo();
+        x.carve(2, 0);
+        s.is("rank(0, -1) behind a letter where the blank was", x.rank(0, -1), NONE);
+        x.undo();
+        x.bar(1);
+        rankRow(x, 0, 2, 0, 0);
+        Due.write(x, S + "dba003l2");
+        x.stone();
+        rankRow(x, 0, 3, 0);
+        s.is("rank(1, 0) behind stone", x.rank(1, 0), NONE);
+    }
+
     private static void rankRefused() {
         s.of(17, "OUTSIDE if k is less than -2.");
         WornLetters x = Due.stone(FOUR);
@@ -413,6 +474,13 @@ public final class ReadingBoundaryTest {
         s.is("sure(1), both readings", Due.stone(S + "dab001dbb001l2").sure(1), 1);
         s.is("sure(0), the last letter", Due.stone(S + "dfa001l2").sure(0), 5);
         s.is("sure(0), all but one reading", almostSure(), NONE);
+        s.of(20, "Returns the sign, 0 to 6; NONE if none is");
+        WornLetters all = Due.stone(S + "dabcde001dfa001la5fa");
+        int[] signs = {0, 1, 2, 3, 4, 6, 5, 0};
+        for (int u = 0; u < signs.length; u++) {
+            s.is("sure(" + u + ") of abcde.fa", all.sure(u), signs[u]);
+        }
+        s.is("sure(0) of no reading", Due.stone(S + "dabcde001l6").sure(0), NONE);
         s.of(20, "UNKNOWN if there is no such unit.");
         s.is("sure(-1)", x.sure(-1), UNKNOWN);
         s.is("sure(11)", x.sure(11), UNKNOWN);
@@ -464,6 +532,10 @@ public final class ReadingBoundaryTest {
         }
         s.is("judge(1, 2^32 + 60400)", x.judge(1, 4294967296L + 60400), OUTSIDE);
         s.is("judge(1, -60400)", x.judge(1, -60400), OUTSIDE);
+        s.of(21, "OUTSIDE if n or row is out of range.");
+        s.is("judge(1, 6040060400), a row for two", x.judge(1, 6040060400L), OUTSIDE);
+        s.is("judge(2, 604006040060400), a row for three", x.judge(2, 604006040060400L), OUTSIDE);
+        s.is("judge(0, 60400), a row for one", x.judge(0, 60400), OUTSIDE);
         s.of(21, NONE_LAST);
         s.is("judge(0, -1)", x.judge(0, -1), OUTSIDE);
         s.is("judge(4, Long.MAX)", x.judge(4, Long.MAX_VALUE), OUTSIDE);
@@ -482,6 +554,8 @@ public final class ReadingBoundaryTest {
         statements(JUDGED, 0, 10200, 10400, 11000, 11100, 12400, 19900);
         s.of(21, "2 U U x 0: sign x is put there, as by carve.");
         statements(JUDGED, NONE, 20400, 20410, 20420, 20430, 20440, 20450, 20460, 21000, 20910, 20820, 21060);
+        statements(S + "la1", NONE, 20100);
+        statements(S + "la1", 0, 20000, 20200);
         statements(JUDGED, 0, 21010, 21020, 20920, 21100, 29900, 20470, 20480, 20490, 20000, 20030, 20200, 20360);
         s.of(21, "3 W 0 0 0: this word is excluded or included, as by bar.");
         statements(JUDGED, NONE, 30000, 31000);
@@ -519,11 +593,21 @@ public final class ReadingBoundaryTest {
         statements(JUDGED, 0, 70010, 70200, 70280, 70260, 70400, 70410, 70460, 70770, 70790, 71000, 71100, 71160, 79960);
         statements(S + "dab001lab1", 0, 70000, 70110, 70200, 70260, 70270);
         statements(S + "dab001", 0, 70000);
+        statements(S + "dabcd001l95", NONE, 70460, 70960, 71000, 71330);
+        statements(S + "dabcd001l95", 0, 70860, 71060, 71460);
         s.of(21, "names a unit, word, kind, rule or sign that does not exist");
         statements(S, 0, 10000, 20000, 30000, 50000, 70000, 43000, 40300, 40030);
         statements(S, NONE, 40000, 60000);
         statements(S + "dab001l996", NONE, 22300, 50220);
         statements(S + "dab001l996", 0, 22400, 50240, 50230, 72400);
+        s.of(21, "U U stands for a unit with two digits, W for a word");
+        statements(S + "dab001lb8aa", NONE, 10000, 10900, 11000);
+        statements(S + "dab001lb8aa", 0, 10100, 10800, 11100, 19000);
+        statements(S + "dab001l8ab", NONE, 50080, 50000);
+        statements(S + "dab001l8ab", 0, 58000, 50800, 50090);
+        s.of(21, "cannot be carried out, or is not true; NONE if there is none");
+        statements(JUDGED, NONE, 10000, 20400, 50000, 60400, 70000);
+        statements(JUDGED, 0, 10200, 20000, 51000, 60300, 70010);
         s.of(21, "the first statement that is none of these");
         statements(JUDGED, 0, 0, 400, 9999, 80000, 80400, 90000, 99999);
     }

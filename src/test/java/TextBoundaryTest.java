@@ -16,6 +16,7 @@ public final class TextBoundaryTest {
     public static void main(String[] args) {
         newObject();
         newObjectByDescription();
+        codes();
         write();
         wipe();
         faultOfWidths();
@@ -91,6 +92,18 @@ public final class TextBoundaryTest {
         s.is("again(0) behind another object", x.again(0), STATE);
         s.is("seed(0) behind another object", x.seed(0), 0);
         s.is("count(4) of the other object", used.count(4), 1);
+    }
+
+    private static void codes() {
+        s.of(1, "The error codes are UNKNOWN (there is no such word, unit or slot), OUTSIDE (another argument is out of its "
+            + "range), STATE (the call is not possible, as told), FULL (there is no room).");
+        s.is("UNKNOWN", WornLetters.UNKNOWN, UNKNOWN);
+        s.is("OUTSIDE", WornLetters.OUTSIDE, OUTSIDE);
+        s.is("STATE", WornLetters.STATE, STATE);
+        s.is("FULL", WornLetters.FULL, FULL);
+        s.of(1, "NONE (-9) stands for \"there is none\"");
+        s.is("NONE", WornLetters.NONE, NONE);
+        s.is("which(1) of a new object", new WornLetters().which(1), NONE);
     }
 
     // ---- promise 2
@@ -211,6 +224,24 @@ public final class TextBoundaryTest {
         next(S + "dab2", "012", false);
         next(S + "dab00", "123456789", false);
         next(S + "dab22", "123456789", false);
+        s.of(4, "A word has 2 to 5 letters, a kind (0 to 2), an ending (0 to 2) and a weight (1 to 9).");
+        s.is("fault of one letter", Due.fault(S + "da001"), 9);
+        s.is("fault of two letters", Due.fault(S + "dab001"), NONE);
+        s.is("fault of five letters", Due.fault(S + "dabcde001"), NONE);
+        s.is("fault of six letters", Due.fault(S + "dabcdef001"), 13);
+        s.is("fault of kind 2", Due.fault(S + "dab201"), NONE);
+        s.is("fault of kind 3", Due.fault(S + "dab301"), 10);
+        s.is("fault of ending 2", Due.fault(S + "dab021"), NONE);
+        s.is("fault of ending 3", Due.fault(S + "dab031"), 11);
+        s.is("fault of weight 0", Due.fault(S + "dab000"), 12);
+        s.is("fault of weight 1", Due.fault(S + "dab001"), NONE);
+        s.is("fault of weight 9", Due.fault(S + "dab009"), NONE);
+        s.is("fault of weight 10", Due.fault(S + "dab0010"), 13);
+        s.of(4, "all other words of the grammar that are not in quotes are single digits");
+        s.is("fault of a width with two digits", Due.fault("S1111111"), 7);
+        s.is("fault of a rule with two digits", Due.fault(S + "r0000"), 11);
+        s.is("fault of a kind with two digits", Due.fault(S + "dab0001l1"), 12);
+        s.is("fault of two gaps", Due.fault(S + "l10"), 9);
         s.of(4, "(So the \"d\" of a ninth word is at fault");
         next(S + EIGHT, "rl", true);
         next(S + "dab001".repeat(7), "drl", true);
@@ -260,10 +291,28 @@ public final class TextBoundaryTest {
         next(S + "l.", SIGNS, true);
         next(S + "lf", SIGNS, true);
         next(S + "dab001l2", SIGNS, true);
+        s.of(4, "sign = letter | \".\" | gap");
+        s.is("fault of each sign", Due.fault(S + "labcdef.1"), NONE);
+        s.is("fault of lg", Due.fault(S + "lg"), 8);
+        s.is("fault of l:", Due.fault(S + "l:"), 8);
+        s.is("fault of l/", Due.fault(S + "l/"), 8);
+        s.is("fault of l-", Due.fault(S + "l-"), 8);
+        s.of(4, "with this grammar, which has no blanks");
+        s.is("fault of a blank before all", Due.fault(" " + S), 0);
+        s.is("fault of a blank between parts", Due.fault(S + " l1"), 7);
+        s.is("fault of a blank in a line", Due.fault(S + "l1 1"), 9);
+        s.is("fault of a blank at the end", Due.fault(S + "l1 "), 9);
         s.of(4, "gap 1 to 9, the number of units of a gap.");
         s.is("fault of l0", Due.fault(S + "l0"), 8);
         s.is("fault of l1", Due.fault(S + "l1"), NONE);
         s.is("fault of l9", Due.fault(S + "l9"), NONE);
+        s.of(4, "and at most 24 units.");
+        s.is("fault of 24 units", Due.fault(S + "l996"), NONE);
+        s.is("fault of 25 units", Due.fault(S + "l997"), 10);
+        s.is("fault of 25 units by a blank", Due.fault(S + "l996."), 11);
+        s.is("fault of 24 units by a wide letter", Due.fault("S311111l993a"), NONE);
+        s.is("fault of 25 units by a wide letter", Due.fault("S311111l994a"), 11);
+        s.is("fault of 26 units by a wide letter", Due.fault("S311111l995a"), 11);
         s.of(4, "a sign with which the line would have more than 24 units.)");
         next(S + "l996", "", true);
         next(S + "l" + "a".repeat(24), "", true);
@@ -293,7 +342,8 @@ public final class TextBoundaryTest {
             String text = whole.substring(0, end);
             s.is("fault of " + text, Due.fault(text), complete[end] ? NONE : end);
         }
-        s.of(4, "of the first character with which, behind the characters before it, no valid text can begin");
+        s.of(4, "The fault of a text is the position, from 0, of the first character with which, behind the characters "
+            + "before it, no valid text can begin");
         s.is("fault of X00X", Due.fault("X00X"), 0);
         s.is("fault of two faults", Due.fault("S101011dzz"), 2);
         s.is("fault of a fault and an early end", Due.fault(S + "dag0"), 9);
@@ -491,6 +541,17 @@ public final class TextBoundaryTest {
         s.is("line(21)", y.line(21), 2);
         s.is("line(23)", y.line(23), 8);
         s.is("line(24)", y.line(24), UNKNOWN);
+        s.of(7, "On it lie signs (letters and blanks), each over as many units as its width says, beginning at a unit; units "
+            + "where no sign lies are gaps.");
+        WornLetters wide = Due.stone("S321111l1aab.b1");
+        int[] covered = {7, 0, 8, 8, 0, 8, 8, 1, 8, 6, 1, 8, 7};
+        for (int u = 0; u < covered.length; u++) {
+            s.is("line(" + u + ")", wide.line(u), covered[u]);
+        }
+        s.is("count(3)", wide.count(3), 2);
+        s.of(7, "\".\" is a blank.");
+        s.is("line(0) of a single dot", Due.stone(S + "l.").line(0), 6);
+        s.is("count(3) of a single dot", Due.stone(S + "l.").count(3), 0);
         s.of(7, "The blank is sign 6; its width is 1.");
         WornLetters z = Due.stone("S333333l.1..");
         int[] blanks = {6, 7, 6, 6};
@@ -506,11 +567,18 @@ public final class TextBoundaryTest {
         for (int i = 0; i < 9; i++) {
             s.is("rule(" + i / 3 + ", " + i % 3 + ")", x.rule(i / 3, i % 3), due[i]);
         }
-        s.of(8, "OUTSIDE if p or q is out of range.");
+        s.of(8, "`p`: the kind of the first word, 0 to 2");
         s.is("rule(-1, 0)", x.rule(-1, 0), OUTSIDE);
+        s.is("rule(0, 1)", x.rule(0, 1), 2);
+        s.is("rule(2, 1)", x.rule(2, 1), 0);
         s.is("rule(3, 0)", x.rule(3, 0), OUTSIDE);
+        s.of(8, "`q`: the kind of the word that follows, 0 to 2");
         s.is("rule(0, -1)", x.rule(0, -1), OUTSIDE);
+        s.is("rule(1, 0)", x.rule(1, 0), 0);
+        s.is("rule(1, 2)", x.rule(1, 2), 2);
         s.is("rule(0, 3)", x.rule(0, 3), OUTSIDE);
+        s.of(8, "OUTSIDE if p or q is out of range.");
+        s.is("rule(-1, 3)", x.rule(-1, 3), OUTSIDE);
         s.is("rule(1, -1), a place of the table", x.rule(1, -1), OUTSIDE);
         s.is("rule(3, -3)", x.rule(3, -3), OUTSIDE);
         for (int far : FAR) {
