@@ -190,6 +190,11 @@ public final class ChanceBoundaryTest {
         ruled.see(1, 3, 1);
         s.is("which(0), by the rules", ruled.which(0), 1);
         s.is("which(1), by the rules", ruled.which(1), 2);
+        // The first word may not follow the second: 00, 01 and 11.
+        WornLetters other = Due.stone(S + "dab001dba101r100l5");
+        other.see(1, 0, 1);
+        s.is("which(0), by the other rule", other.which(0), 1);
+        s.is("which(1), by the other rule", other.which(1), 2);
         WornLetters dense = Due.stone(DENSE);
         dense.see(0, 0, 1);
         s.is("which(0), dense", dense.which(0), 2097152);
