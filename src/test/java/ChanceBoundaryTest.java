@@ -200,6 +200,20 @@ public final class ChanceBoundaryTest {
         s.is("which(0), dense", dense.which(0), 2097152);
         // Before 07777777 all that lack at most 6 of the greatest weight: 14 over 8.
         s.is("which(1), dense", dense.which(1), 3003);
+        // 24 units: eight readings of seven words ab and one abc, then 35 of three and four.
+        WornLetters longest = Due.stone(S + "dab001dabc001l996");
+        longest.see(1, 21, 1);
+        s.is("which(0), the last word of 24 units", longest.which(0), 21);
+        s.is("which(1), the last word of 24 units", longest.which(1), 0);
+        longest.unsee();
+        longest.see(0, 22, 1);
+        s.is("which(0), the last word of 24 units", longest.which(0), 22);
+        s.is("which(1), the last word of 24 units", longest.which(1), 1);
+        longest.see(0, 0, 0);
+        longest.see(0, 4, 0);
+        s.is("which(0), abc twice, then ab at 22", longest.which(0), 6);
+        // Before 1100110: 8 heavier ones, 15 that begin with 0, 10 with 10, and 1100011 and 1100101.
+        s.is("which(1), abc twice, then ab at 22", longest.which(1), 35);
         for (int unit = 3; unit <= 15; unit += 3) {
             dense.see(0, unit, 1);
         }
@@ -491,6 +505,12 @@ public final class ChanceBoundaryTest {
             random = following(random);
             int weight = dense.rank(upper31(random) % 16777216, -1);
             s.is("drawn(1), draw " + i + " of 16777216 readings", dense.drawn(1), weight);
+        }
+        WornLetters longest = Due.stone(S + "dab001dabc001l996");
+        random = 0;
+        for (int i = 0; i < 20; i++) {
+            random = following(random);
+            s.is("drawn(1), draw " + i + " of 24 units", longest.drawn(1), upper31(random) % 43 < 8 ? 8 : 7);
         }
         s.of(28, "(0 if there are no readings)");
         WornLetters none = Due.stone(S + "dab001l3");

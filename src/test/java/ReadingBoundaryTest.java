@@ -30,6 +30,7 @@ public final class ReadingBoundaryTest {
         rankOrder();
         rankByRules();
         rankBehindActs();
+        longestLine();
         rankRefused();
         stands();
         begins();
@@ -365,6 +366,31 @@ public final class ReadingBoundaryTest {
         x.stone();
         rankRow(x, 0, 3, 0);
         s.is("rank(1, 0) behind stone", x.rank(1, 0), NONE);
+    }
+
+    private static void longestLine() {
+        s.of(17, "The line consists of at most 24 units, numbered from 0");
+        // Eight readings of seven words ab and one abc, then 35 of three and four.
+        WornLetters x = Due.stone(S + "dab001dabc001l996");
+        rankRow(x, 0, 8, 0, 0, 0, 0, 0, 0, 0, 1);
+        rankRow(x, 7, 8, 1, 0, 0, 0, 0, 0, 0, 0);
+        rankRow(x, 8, 7, 0, 0, 0, 1, 1, 1, 1);
+        rankRow(x, 42, 7, 1, 1, 1, 1, 0, 0, 0);
+        s.is("rank(43, 0)", x.rank(43, 0), NONE);
+        WornLetters wide = Due.stone("S333333dabcd001dab001dbc001dcde001l995");
+        // With a blank the words take 13, 7, 7 and 10 units: only 10 and twice 7 make 24, in 3 orders of 4 choices.
+        s.is("readings() of wide letters", wide.readings(), 12);
+        rankRow(wide, 0, 3, 1, 1, 3);
+        rankRow(wide, 11, 3, 3, 2, 2);
+        s.of(19, "The line consists of at most 24 units, numbered from 0");
+        s.is("begins(0, 22)", x.begins(0, 22), 22);
+        s.is("begins(1, 21)", x.begins(1, 21), 21);
+        s.is("begins(0, 23)", x.begins(0, 23), 0);
+        s.of(18, "The line consists of at most 24 units, numbered from 0");
+        s.is("stands(23, 1), the last letter of ab", x.stands(23, 1), 22);
+        s.is("stands(23, 2), the last letter of abc", x.stands(23, 2), 21);
+        s.is("stands(21, 6)", x.stands(21, 6), 22);
+        s.is("stands(20, 6)", x.stands(20, 6), 21);
     }
 
     private static void rankRefused() {
