@@ -254,7 +254,7 @@ public final class WornLetters {
         for (int i = 1; i < n; i++) {
             place = place * STATEMENT_BASE;
         }
-        if (row / place >= STATEMENT_BASE) {
+        if (place <= 0 || row / place >= STATEMENT_BASE) {
             return OUTSIDE;
         }
         trial.copyFrom(tablet);

@@ -28,6 +28,13 @@ public final class LanguageTest {
         "int unsee()", "long which(int)", "long share(int,boolean)", "int lost(int,boolean)", "long seed(long)",
         "int drawn(int)", "int keep(int)", "int again(int)", "int count(int)"};
 
+    /** What rule 4 lists of the library, as far as the class uses it; and the constructor that javac itself calls. */
+    private static final Set<String> LIBRARY = Set.of("java/util/Arrays.fill", "java/lang/System.arraycopy",
+        "java/lang/Math.min", "java/lang/Integer.bitCount", "java/lang/Object.<init>");
+    private static final Set<Class<?>> CONSTANTS = Set.of(int.class, long.class, boolean.class, char.class, String.class,
+        int[].class, long[].class, char[].class, byte[].class);
+    private static final Set<Class<?>> ROWS = Set.of(int[].class, long[].class, boolean[].class);
+
     private static final Due due = new Due("LanguageTest");
 
     public static void main(String[] args) throws IOException {
@@ -83,6 +90,9 @@ public final class LanguageTest {
         for (Field f : c.getDeclaredFields()) {
             boolean shared = Modifier.isStatic(f.getModifiers());
             due.holds(f + " is final if it is static", !shared || Modifier.isFinal(f.getModifiers()));
+            Class<?> type = f.getType();
+            boolean own = type.getNestHost() == WornLetters.class || type.isPrimitive() || ROWS.contains(type);
+            due.holds(f + " is of a type that the rules leave", shared ? CONSTANTS.contains(type) : own);
             fields += shared ? 0 : 1;
         }
         due.holds(c + " has at most twenty fields", fields <= 20);
@@ -128,7 +138,7 @@ public final class LanguageTest {
         due.holds("the methods were found", methods > FACE.length);
     }
 
-    // ---- how deep calls go, told from the compiled classes
+    // ---- what is called, and how deep calls go, told from the compiled classes
 
     private static void depth(List<Class<?>> classes) {
         Map<String, Set<String>> calls = new HashMap<>();
@@ -143,6 +153,10 @@ public final class LanguageTest {
         due.holds("the calls of judge were found", calls.getOrDefault("WornLetters.judge", Set.of()).size() > 1);
         for (String method : calls.keySet()) {
             due.holds(method + " calls at most eight deep", depthOf(method, calls, 0) <= 8);
+            for (String called : calls.get(method)) {
+                boolean listed = calls.containsKey(called) || LIBRARY.contains(called);
+                due.holds(method + " calls what the rules leave, not " + called + ":", listed);
+            }
         }
     }
 
